@@ -465,8 +465,8 @@ public final class KindRounds {
 
     /** All kinds: the star, arrows, and open ones that may become others by a link. */
     private static final class Kinds {
-        /** A text of 1200 bytes and a type asked of it make less than 1900 kinds. */
-        private static final int ROOM = 2048;
+        /** The star, 400 told arrows, 7 for each declared, and 3 for each node of a text and of what is asked. */
+        private static final int ROOM = 1 + 400 + 7 * DECLS + 3 * NODES + 3 * NODES;
         private static final int TURNS = 1000000;
         private static final int UNLINKED = -1;
         private static final int OPEN = -1;

@@ -111,6 +111,15 @@ final class Due {
         return part.repeat(times);
     }
 
+    /**
+     * P is told with n arrows; T, V and W have kinds with P's and each other's inside. T's has 6n + 26 bytes,
+     * V's and W's ten more each, and three more for each Int behind.
+     */
+    static String longText(int n, String more) {
+        return "kind P::(" + times("*->", n) + "*)->*;data P a=A;data T f=B(f P P" + more + ");"
+            + "data V g=C(g T);data W h=D(h V);";
+    }
+
     static void is(String call, long got, long due) {
         asked++;
         if (got != due) {
