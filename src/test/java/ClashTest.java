@@ -38,6 +38,7 @@ public final class ClashTest {
         Due d = new Due();
         d.clashIs("type T a = a a ;", 13, "a", "a->b");
         d.clashIs("data T a = A (T a) | B (a T) | C (a a) ;", 26, "a", "(a->*)->b");
+        d.clashIs("class C a { m :: g f -> g (f x) ; } ;", 26, "(a->b)->*", "b->c");
         d.clashIs("class C a { m :: f g -> g f ; } ;", 26, "a", "(a->*)->b");
         d.clashIs("class C a { m :: f g -> g h -> h f ; } ;", 33, "a", "((a->*)->*)->b");
     }

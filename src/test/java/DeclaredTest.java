@@ -32,6 +32,10 @@ public final class DeclaredTest {
         Due.is("no such declared", d.x.told(-1, 0), -1);
         Due.is("neither", d.x.told(-1, -1), -1);
         Due.is("neither", d.x.told(Integer.MIN_VALUE, 6), -1);
+        d.read("type A a = a ; class B a { } ; data C = K ;");
+        for (int i = 0; i < 3; i++) {
+            Due.is("parts of the new text " + i, d.x.told(i, 4), i / 2);
+        }
     }
 
     private static void tellingOpen() {
@@ -80,6 +84,9 @@ public final class DeclaredTest {
         d.declaredKindIs(4, 0, "*->(*->*->*)->*");
         d.declaredKindIs(4, -1, "(*->(*->*->*)->*)->*");
         d.declaredKindIs(6, -1, "((*->*)->*->*)->(*->*)->*->*");
+        d.declaredKindIs(6, 0, "(*->*)->*->*");
+        d.declaredKindIs(6, 1, "*->*");
+        d.declaredKindIs(6, 2, "*");
     }
 
     private static void longKinds() {
