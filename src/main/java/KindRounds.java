@@ -111,7 +111,6 @@ public final class KindRounds {
         }
         if (fault.isThere()) {
             text.clear();
-            kinds.clear();
             return FAULT_BASE - fault.number;
         }
         return text.size;
@@ -191,16 +190,13 @@ public final class KindRounds {
         if (!takeTypes(1)) {
             return FAULT_BASE - fault.number;
         }
-        int answer = showKind(solver.rootKind);
-        kinds.dropAsked();
-        return answer;
+        return showKind(solver.rootKind);
     }
 
     public int plain() {
         if (!takeTypes(1)) {
             return FAULT_BASE - fault.number;
         }
-        kinds.dropAsked();
         if (!plainer.replaceAll(asked, 0)) {
             return NO_ROOM;
         }
@@ -213,7 +209,6 @@ public final class KindRounds {
         if (!takeTypes(2)) {
             return FAULT_BASE - fault.number;
         }
-        kinds.dropAsked();
         if (!plainer.replaceAll(asked, 0)) {
             return NO_ROOM;
         }
@@ -229,6 +224,7 @@ public final class KindRounds {
         fault.clear();
         mentions.clear();
         asked.clear();
+        kinds.dropAsked();
         tape.scan();
         parser.parseTypes(asked, types);
         tape.length = 0;
@@ -236,11 +232,7 @@ public final class KindRounds {
         for (int term = 0; term < types && !fault.isThere(); term++) {
             solver.solveAsked(asked, term);
         }
-        if (fault.isThere()) {
-            kinds.dropAsked();
-            return false;
-        }
-        return true;
+        return !fault.isThere();
     }
 
     private int showKind(int kind) {
@@ -502,7 +494,13 @@ public final class KindRounds {
         }
 
         private int makeOpen() {
-            return makeArrow(OPEN, OPEN);
+            if (size >= ROOM) {
+                return STAR;
+            }
+            left[size] = OPEN;
+            link[size] = UNLINKED;
+            size++;
+            return size - 1;
         }
 
         private int makeArrow(int from, int to) {
@@ -705,6 +703,7 @@ public final class KindRounds {
             textSize = size;
         }
 
+        /** What the question before made is not needed any more. */
         private void dropAsked() {
             size = textSize;
         }
@@ -742,12 +741,14 @@ public final class KindRounds {
             return size >= NODES;
         }
 
-        private void beginTerm(int owner) {
-            if (terms <= NODES) {
-                termStarts[terms] = size;
-                termOwners[terms] = owner;
-                terms++;
+        private boolean beginTerm(int owner) {
+            if (terms > NODES) {
+                return false;
             }
+            termStarts[terms] = size;
+            termOwners[terms] = owner;
+            terms++;
+            return true;
         }
 
         private int termEnd(int term) {
@@ -764,7 +765,7 @@ public final class KindRounds {
         }
 
         private boolean add(int sort, long name, int count, int spot) {
-            if (isFull()) {
+            if (size >= NODES) {
                 return false;
             }
             sorts[size] = sort;
@@ -1077,7 +1078,8 @@ public final class KindRounds {
                         fits = parseHead(DATA) && parseParams() && expect('=') && parseCons();
                         break;
                     case WORD_TYPE:
-                        fits = parseHead(SYNONYM) && parseParams() && expect('=') && parseTerm();
+                        fits = parseHead(SYNONYM) && parseParams() && expect('=')
+                            && row.beginTerm(owner) && parseType(0);
                         break;
                     case WORD_CLASS:
                         fits = parseHead(CLASS) && parseParam() && expect('{') && parseMethods() && expect('}');
@@ -1096,9 +1098,9 @@ public final class KindRounds {
         private void parseTypes(Row into, int types) {
             row = into;
             owner = ASKED;
-            boolean fits = parseTerm();
+            boolean fits = row.beginTerm(owner) && parseType(0);
             for (int more = 1; more < types && fits; more++) {
-                fits = expect(',') && parseTerm();
+                fits = expect(',') && row.beginTerm(owner) && parseType(0);
             }
             if (fits && tape.sort() != END) {
                 misfit();
@@ -1117,7 +1119,8 @@ public final class KindRounds {
 
         private boolean expect(int sort) {
             if (tape.sort() != sort) {
-                return misfit();
+                fault.raise(MISFIT, tape.start());
+                return false;
             }
             tape.step();
             return true;
@@ -1171,8 +1174,7 @@ public final class KindRounds {
                 mentions.add(Mentions.OF_CON, owner, tape);
                 tape.step();
                 for (int turn = 0; turn <= NODES && startsOne(); turn++) {
-                    row.beginTerm(owner);
-                    if (!parseOne(0)) {
+                    if (!row.beginTerm(owner) || !parseOne(0)) {
                         return false;
                     }
                 }
@@ -1192,7 +1194,8 @@ public final class KindRounds {
                 text.items[owner]++;
                 mentions.add(Mentions.OF_METHOD, owner, tape);
                 tape.step();
-                if (!expect(COLONS) || !parseTerm() || !expect(';')) {
+                boolean fits = expect(COLONS) && row.beginTerm(owner) && parseType(0) && expect(';');
+                if (!fits) {
                     return false;
                 }
             }
@@ -1256,11 +1259,6 @@ public final class KindRounds {
             return kind >= 0 && expect(')') ? kind : -1;
         }
 
-        private boolean parseTerm() {
-            row.beginTerm(owner);
-            return parseType(0);
-        }
-
         private boolean parseType(int depth) {
             for (int turn = 0; turn <= NODES; turn++) {
                 int start = row.size;
@@ -1307,8 +1305,14 @@ public final class KindRounds {
 
         private boolean parseOne(int depth) {
             int sort = tape.sort();
+            int start = tape.start();
             if (sort == BIG || sort == SMALL) {
-                return parseName(sort);
+                if (!row.add(sort, tape.name(), 0, start)) {
+                    return tooMuch();
+                }
+                mentions.add(sort == BIG ? Mentions.OF_BIG : Mentions.OF_SMALL, owner, tape);
+                tape.step();
+                return true;
             }
             if (sort != '(' && sort != LIST) {
                 return misfit();
@@ -1317,7 +1321,6 @@ public final class KindRounds {
                 return tooMuch();
             }
             int first = row.size;
-            int start = tape.start();
             if (sort == LIST && !row.add(LIST, 0, 1, start)) {
                 return tooMuch();
             }
@@ -1327,15 +1330,6 @@ public final class KindRounds {
             }
             row.spots[first] = start;
             return expect(sort == LIST ? ']' : ')');
-        }
-
-        private boolean parseName(int sort) {
-            if (!row.add(sort, tape.name(), 0, tape.start())) {
-                return tooMuch();
-            }
-            mentions.add(sort == BIG ? Mentions.OF_BIG : Mentions.OF_SMALL, owner, tape);
-            tape.step();
-            return true;
         }
     }
 

@@ -30,6 +30,7 @@ public final class LimitsTest {
         String text = "kind T::*;data F a=B;data T=A" + Due.times(" Int", 199);
         d.readIs(text + " F;", -16, text.length() + 1);
         d.readIs(text + " T;", 2, -3);
+        d.readIs(text + " T T;", -12, text.length() + 3);
     }
 
     private static void manyNames() {
