@@ -113,11 +113,11 @@ public final class DeclaredTest {
         d.read(MIXED);
         Due.is("groups", d.x.groups(), 5);
         int[][] due = {{2}, {3}, {1}, {0}, {4, 5}};
-        groupsAre(d, due);
+        d.groupsAre(due);
         d.read("data A = K B ; data B = L C ; data C = M A D ; data D = N D ;");
-        groupsAre(d, new int[][] {{3}, {0, 1, 2}});
+        d.groupsAre(new int[][] {{3}, {0, 1, 2}});
         d.read("data D = N ; data A = K B ; data B = L C ; data C = M A D ;");
-        groupsAre(d, new int[][] {{0}, {1, 2, 3}});
+        d.groupsAre(new int[][] {{0}, {1, 2, 3}});
         d.read("");
         Due.is("none", d.x.groups(), 0);
     }
@@ -125,24 +125,13 @@ public final class DeclaredTest {
     private static void groupsByLeast() {
         Due d = new Due();
         d.read("data A = K C ; data B = L ; data C = M ; data D = N ;");
-        groupsAre(d, new int[][] {{1}, {2}, {0}, {3}});
+        d.groupsAre(new int[][] {{1}, {2}, {0}, {3}});
         d.read("data A = K D ; data B = L C ; data C = M B ; data D = N E ; data E = O ;");
-        groupsAre(d, new int[][] {{1, 2}, {4}, {3}, {0}});
+        d.groupsAre(new int[][] {{1, 2}, {4}, {3}, {0}});
         d.read("data A = K ; data B = L A D ; data C = M ; data D = N B ; data E = O ;");
-        groupsAre(d, new int[][] {{0}, {1, 3}, {2}, {4}});
+        d.groupsAre(new int[][] {{0}, {1, 3}, {2}, {4}});
         d.read("class Z a { m :: T a ; } ; class Y a { } ; data T a = K ; type S = T Int ;");
-        groupsAre(d, new int[][] {{1}, {2}, {0}, {3}});
-    }
-
-    private static void groupsAre(Due d, int[][] due) {
-        Due.is("groups", d.x.groups(), due.length);
-        for (int g = 0; g < due.length; g++) {
-            for (int k = 0; k < due[g].length; k++) {
-                Due.is("member " + g + " " + k, d.x.member(g, k), due[g][k]);
-                Due.is("group of " + due[g][k], d.x.told(due[g][k], 2), g);
-            }
-            Due.is("no more in " + g, d.x.member(g, due[g].length), -1);
-        }
+        d.groupsAre(new int[][] {{1}, {2}, {0}, {3}});
     }
 
     private static void members() {

@@ -124,34 +124,45 @@ public final class LimitsTest {
         Due.is("right is too long", d.x.side(1), -4);
     }
 
+    /** As many questions as 512 calls allow, on one object: none may leave its kinds behind. */
     private static void manyAsked() {
         Due d = new Due();
         d.read("data L a = A a ;");
         String ones = "f" + Due.times(" x", 99);
-        for (int i = 0; i < 11; i++) {
-            d.kindIs("[" + ones + "]", "*");
-            Due.is("plain", d.plain(ones), ones.length());
-            Due.is("fault", d.kind(ones + " f"), -16);
+        for (int i = 0; i < 12; i++) {
+            d.putOnThis("[" + ones + "]");
+            Due.is("kind", d.x.kind(), 1);
+            d.putOnThis(ones);
+            Due.is("plain", d.x.plain(), ones.length());
+            d.putOnThis(ones + " f");
+            Due.is("fault", d.x.kind(), -16);
         }
         d = new Due();
-        for (int i = 0; i < 12; i++) {
-            d.sameIs(ones + "," + ones, 1, -3);
-            Due.is("fault", d.same(ones + ",f f"), -16);
+        for (int i = 0; i < 13; i++) {
+            d.putOnThis(ones + "," + ones);
+            Due.is("same", d.x.same(), 1);
+            d.putOnThis(ones + ",f f");
+            Due.is("fault", d.x.same(), -16);
         }
-        Due.is("still", d.kind("f x -> f"), -16);
+        d.putOnThis("f x -> f");
+        Due.is("still", d.x.kind(), -16);
         Due.is("left", d.x.side(0), 4);
     }
 
     private static void manyRead() {
         Due d = new Due();
         String text = "class C f{m::f" + Due.times(" x", 99) + ";};data L a=A[a];";
-        for (int i = 0; i < 20; i++) {
-            d.readIs(text, 2, -3);
+        for (int i = 0; i < 13; i++) {
+            d.putOnThis(text);
+            Due.is("read", d.x.read(), 2);
             Due.is("kind", d.x.kindOf(0, -1), 3 * 99 + 1);
-            Due.is("fault", d.read(text + "data T=B L;"), -16);
+            d.putOnThis(text + "data T=B L;");
+            Due.is("fault", d.x.read(), -16);
         }
-        d.readIs(text, 2, -3);
-        d.kindFails("L L", -16, 2);
+        d.putOnThis(text);
+        Due.is("read", d.x.read(), 2);
+        d.putOnThis("L L");
+        Due.is("kind", d.x.kind(), -16);
         d.sidesAre("L L", "*->*", "(*->*)->a");
     }
 
