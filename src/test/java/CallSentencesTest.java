@@ -123,6 +123,8 @@ public final class CallSentencesTest {
             Due.is("no needs", d.x.needs(0, 0), -1);
             Due.is("no T", d.kind("T"), -13);
             Due.is("its place", d.x.place(), 0);
+            Due.is("types of no text", d.kind("f x->g(f y)->[Int]"), 1);
+            Due.is("types of no text", d.kind("[f x y]->[g x z y]->f x Int"), 1);
         }
         Due.is("two", d.read("data T=A T;type U=T;"), 2);
         Due.is("one in their place", d.read("class C a{};"), 1);

@@ -27,6 +27,10 @@ public final class TokenSentencesTest {
         d.good(1, full + ";");
         d.fault(1, full + " ^");
         d.fault(1, full + "^!");
+        String tokens = "((((((((f))))))))" + Due.times("((((((((a))))))))", 69) + "(((a)))(a";
+        d.kindIs(tokens + ")", "*");
+        d.typeFault(1, tokens + " ^");
+        d.typeFault(1, tokens + "^]");
     }
 
     private static void asLongAsCanBe() {
