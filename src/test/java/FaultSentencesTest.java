@@ -1,6 +1,7 @@
 /** Part 1 of the document, sentence by sentence: the faults 1 to 5, and which of them comes first. */
 public final class FaultSentencesTest {
     public static void main(String[] args) {
+        firstThatFits();
         noToken();
         tooLongName();
         cannotStand();
@@ -20,6 +21,22 @@ public final class FaultSentencesTest {
         lacks();
         equationsLast();
         Due.end();
+    }
+
+    private static void firstThatFits() {
+        Due.sentence("FAULTS, the first that fits, told with a place (a byte of the tape, from 0)");
+        Due d = new Due();
+        d.fault(1, "^?");
+        d.fault(1, "\n^?");
+        d.fault(1, Due.times(" ", 1199) + "^?");
+        d.fault(1, Due.times(" ", 1192) + "data T=A^");
+        d.fault(1, "data T=A x|A(Int Int);type U=U;type V a=V;data W a b c^?");
+        d.fault(2, "data T=A x|A(Int Int);type U=U;type V a=V;data W a b c ^d=B;");
+        d.fault(3, "data T=A ^x|A(Int Int);type U=U;type V a=V;");
+        d.fault(4, "data T=A(Int Int);type ^U=U;type V a=a;type W=V;");
+        d.fault(5, "data T=A(Int Int);type V a=a;type W=^V;");
+        d.fault(6, "data T=A(Int ^Int);type V a=a;type W=V Int;");
+        d.good(3, "data T=A Int;type V a=a;type W=V Int;");
     }
 
     private static void noToken() {
